@@ -49,7 +49,6 @@ public final class TermMachine {
     public TermMachine() {
         for (int d = 0; d < DICTIONARIES; d++) {
             dictionaries[d] = new Dictionary();
-            trie.build(dictionaries[d]);
         }
         for (int w = 0; w < WALKS; w++) {
             walks[w] = new Walk();
@@ -648,12 +647,18 @@ public final class TermMachine {
         private int finals;
         private int beginnings;
 
-        void clear(long least) {
+        /** That of a dictionary without terms. */
+        Machine() {
+            clear(0, 1);
+            putState(NONE, 0);
+        }
+
+        void clear(long least, int beginnings) {
             this.least = least;
+            this.beginnings = beginnings;
             states = 0;
             arcs = 0;
             finals = 0;
-            beginnings = 0;
             firstArc[0] = 0;
         }
 
@@ -905,8 +910,7 @@ public final class TermMachine {
         }
 
         private void draw(Machine machine) {
-            machine.clear(least[0]);
-            machine.beginnings = size;
+            machine.clear(least[0], size);
             for (int state = 0; state < states; state++) {
                 int node = shown[state];
                 machine.putState(lastOutput(node), rows[node]);
@@ -985,7 +989,7 @@ public final class TermMachine {
             if (least < 0 || states < 1 || states > MOST_STATES) {
                 return false;
             }
-            machine.clear(least);
+            machine.clear(least, 0);
             for (int state = 0; state < states; state++) {
                 if (!readState(signs, machine, (int) states)) {
                     return false;

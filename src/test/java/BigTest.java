@@ -1,4 +1,5 @@
 import java.util.ArrayList;
+import java.util.Arrays;
 import java.util.List;
 import java.util.Random;
 import java.util.TreeSet;
@@ -15,6 +16,7 @@ public final class BigTest {
         fill(4, 3, 7, 1);
         fill(5, 200, 1, MOST_OUT);
         fill(6, 16, 2, 2);
+        greatestTrie();
         roundTrip();
         tooManyPaths();
         check.end("BigTest");
@@ -41,6 +43,24 @@ public final class BigTest {
         }
         check.due("done", x.done(0), model.done(0));
         compare(x, model, new ArrayList<>(words));
+    }
+
+    /** As many beginnings as there can be: no two terms share a sign. */
+    private static void greatestTrie() {
+        TermMachine x = new TermMachine();
+        x.begin(0);
+        for (int i = 0; i < 200; i++) {
+            int[] word = new int[12];
+            Arrays.fill(word, i);
+            check.due("add", Check.give(x, word).add(0, MOST_OUT - i), i + 1);
+        }
+        check.due("states", x.done(0), 2 + 200 * 11);
+        check.due("arcs", x.count(0, 3), 200 * 12);
+        check.due("beginnings", x.count(0, 6), 1 + 200 * 12);
+        int[] last = new int[12];
+        Arrays.fill(last, 199);
+        check.due("find", Check.give(x, last).find(0), MOST_OUT - 199);
+        check.due("state", Check.give(x, last).state(0), 12);
     }
 
     private static Model give(Model model, String word) {
@@ -77,30 +97,33 @@ public final class BigTest {
         check.due("next", x.next(0), -1);
     }
 
-    /** What fills COLLECTED to the last sign, or nearly, is read back. */
+    /** What fills COLLECTED to the last sign is read back. */
     private static void roundTrip() {
-        Random random = new Random(77);
         TermMachine x = new TermMachine();
-        x.begin(0);
-        for (int i = 0; i < 199; i++) {
-            int[] word = {i, random.nextInt(256), random.nextInt(256), random.nextInt(256)};
-            Check.give(x, word).add(0, random.nextInt(1000));
-        }
-        x.done(0);
-        int size = x.packed(0);
-        check.due("it fills much", size > 3500 && size <= 4000 ? 1 : 0, 1);
-        int[] signs = new int[size];
-        for (int i = 0; i < size; i++) {
+        fillFan(x, 0, 0);
+        int missing = 4000 - x.packed(0);
+        fillFan(x, missing / 2, missing % 2);
+        check.due("packed", x.packed(0), 4000);
+        int[] signs = new int[4000];
+        for (int i = 0; i < 4000; i++) {
             signs[i] = x.sign(i);
         }
         check.due("load", Check.give(x, signs).load(1), 199);
         check.due("nothing is in just one", x.join(0, 1, 2, 3), 0);
         check.due("states", x.count(1, 2), x.count(0, 2));
-        signs[size - 1] ^= 1;
+        signs[3999] ^= 1;
         check.due("load of what is broken", Check.give(x, signs).load(1), -7);
-        int[] much = new int[4000];
-        System.arraycopy(signs, 0, much, 0, size);
-        check.due("load of 4000", Check.give(x, much).load(1), -7);
+    }
+
+    /** An OUT of 20000 takes two signs more than one of 0 does, one of 200 takes one more. */
+    private static void fillFan(TermMachine x, int twoMore, int oneMore) {
+        Random random = new Random(77);
+        x.begin(0);
+        for (int i = 0; i < 199; i++) {
+            int[] word = {i, random.nextInt(256), random.nextInt(256), random.nextInt(256)};
+            Check.give(x, word).add(0, i < twoMore ? 20000 : i < twoMore + oneMore ? 200 : 0);
+        }
+        x.done(0);
     }
 
     /** Machines with more paths than could ever be gone, in few signs. */

@@ -1,7 +1,6 @@
-import java.nio.charset.StandardCharsets;
 import java.util.ArrayList;
-import java.util.Arrays;
 import java.util.HashMap;
+import java.util.LinkedHashMap;
 import java.util.List;
 import java.util.Map;
 import java.util.TreeMap;
@@ -161,7 +160,7 @@ final class Model {
 
     /** For each REST, in the order in which they come up, the first BEGINNING that has it. */
     private Map<Map<String, Long>, String> rests(int d) {
-        Map<Map<String, Long>, String> all = new java.util.LinkedHashMap<>();
+        Map<Map<String, Long>, String> all = new LinkedHashMap<>();
         for (String beginning : beginnings(d)) {
             all.putIfAbsent(rest(d, beginning), beginning);
         }
@@ -542,11 +541,6 @@ final class Model {
         return walks[w] == null || walks[w].left.isEmpty() ? NONE : walks[w].left.remove(0);
     }
 
-    /** What is COLLECTED, so that runs can be told. */
-    byte[] collectedBytes() {
-        return collected.getBytes(StandardCharsets.ISO_8859_1);
-    }
-
     String packedText(int d) {
         return pack(d);
     }
@@ -643,9 +637,5 @@ final class Model {
             }
             return true;
         }
-    }
-
-    static String show(byte[] bytes) {
-        return Arrays.toString(bytes);
     }
 }

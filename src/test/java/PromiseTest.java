@@ -482,6 +482,7 @@ public final class PromiseTest {
         dueRow("wild a*b*", x, give(x, "a*b*").meet(0, 0), 3, 4, 5);
         dueRow("wild abc", x, give(x, "abc").meet(0, 0), 4);
         dueRow("wild 24", x, give(x, "************************").meet(0, 0), 0, 1, 2, 3, 4, 5, 6, 7);
+        dueRow("wild 24 with a last sign", x, give(x, "***********************b").meet(0, 0), 3, 5, 6, 7);
         due("wild 25", give(x, "*************************").meet(0, 0), LONG);
         words(x, 0, "(", "[", "\\a", "a+", "aa");
         dueRow("wild (", x, give(x, "(").meet(0, 0), 0);
@@ -565,6 +566,15 @@ public final class PromiseTest {
         duePattern(x, "[a-\u00ff]", 6, 7, 8, 9, 10);
         duePattern(x, "[.*+?()|]");
         duePattern(x, "[^^-a]", 1, 2, 3, 4, 7, 8, 9, 10);
+        words(x, 0, "\u0000", "\u0000\u0000", "aa", "ab", "abb", "ba", "bc");
+        duePattern(x, "[^a]", 0);
+        duePattern(x, "[\u0000-\u0001]", 0);
+        duePattern(x, "[\u0000]+", 0, 1);
+        duePattern(x, "[ab][ab]", 2, 3, 5);
+        duePattern(x, "a[ab]", 2, 3);
+        duePattern(x, "[^c][^a]", 1, 3, 6);
+        duePattern(x, "a[b]*", 3, 4);
+        duePattern(x, "([a-b][b-c])?b?", 3, 4, 6);
     }
 
     private static void meetNear() {
@@ -845,6 +855,9 @@ public final class PromiseTest {
         dueShape("a number too long", 84, 77, 133, 0, 1, 1, 0, 0);
         dueShape("a number of ten", 84, 77, 128, 128, 128, 128, 128, 128, 128, 128, 128, 1, 1, 1, 0, 0);
         dueShape("an out too great", 84, 77, 129, 160, 148, 165, 141, 29, 1, 1, 0, 0);
+        dueShape("a last out too great", 84, 77, 0, 2, 1, 129, 160, 148, 165, 141, 29, 1, 97, 1, 0, 1, 0, 0);
+        dueShape("an output too great", 84, 77, 0, 2, 1, 0, 1, 97, 1, 129, 160, 148, 165, 141, 29, 1, 0, 0);
+        dueShape("a sum too great", 84, 77, 1, 2, 1, 0, 1, 97, 1, 128, 160, 148, 165, 141, 29, 1, 0, 0);
         dueShape("a last output not least", 84, 77, 0, 1, 1, 4, 0);
         dueShape("very many states", 84, 77, 0, 255, 255, 255, 127, 0, 0);
         dueShape("very many arcs", 84, 77, 0, 1, 0, 255, 255, 255, 127);

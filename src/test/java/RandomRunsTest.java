@@ -6,7 +6,7 @@ import java.util.TreeSet;
 
 /** Runs of up to 512 calls, drawn from fixed seeds, whose answers are those of the model. */
 public final class RandomRunsTest {
-    private static final int RUNS = 400;
+    private static final int RUNS = 600;
     private static final int CALLS = 512;
     private static final String[] ALPHABETS = {"ab", "abc", "abcd*?-", "a\u0000\u00ff", "()*+.?[]\\|^-ab", "\u007f\u0080\u0081"};
     private static final String PATTERN_SIGNS = "aaabbbcc.()()*+?|[]^-\\";
@@ -158,7 +158,7 @@ public final class RandomRunsTest {
     private void meetOne(int d) {
         int kind = rarely() ? below(2) * 6 - 1 : below(5);
         if (kind == 1) {
-            collect(anyRow(below(3) == 0 ? "a|()*" : PATTERN_SIGNS, rarely() ? 26 : 1 + below(12)));
+            collect(anyPattern());
         } else if (kind == 0) {
             collect(anyRow(alphabet + "*?", rarely() ? 26 : 6));
         } else {
@@ -167,6 +167,49 @@ public final class RandomRunsTest {
         same("meet(" + d + ", " + kind + ")", machine.meet(d, kind), model.meet(d, kind));
         same("fault()", machine.fault(), model.fault());
         readRow();
+    }
+
+    private String anyPattern() {
+        switch (below(5)) {
+            case 0:
+                return anyRow(PATTERN_SIGNS, rarely() ? 26 : 1 + below(12));
+            case 1:
+                StringBuilder text = new StringBuilder(anyChoice(0));
+                text.setCharAt(below(text.length()), PATTERN_SIGNS.charAt(below(PATTERN_SIGNS.length())));
+                return text.toString();
+            default:
+                return anyChoice(0);
+        }
+    }
+
+    private String anyChoice(int depth) {
+        StringBuilder text = new StringBuilder();
+        for (int pieces = 1 + below(4); pieces > 0; pieces--) {
+            text.append(anyAtom(depth)).append(below(2) == 0 ? "" : String.valueOf("*+?".charAt(below(3))));
+            text.append(below(4) == 0 ? "|" : "");
+        }
+        return text.toString();
+    }
+
+    private String anyAtom(int depth) {
+        switch (below(6)) {
+            case 0:
+                return ".";
+            case 1:
+                return depth < 5 ? "(" + anyChoice(depth + 1 + below(2)) + ")" : "a";
+            case 2:
+                return "[" + (below(3) == 0 ? "^" : "") + anyItem() + (below(2) == 0 ? anyItem() : "") + "]";
+            case 3:
+                return "\\" + alphabet.charAt(below(alphabet.length()));
+            default:
+                return String.valueOf(alphabet.charAt(below(alphabet.length())));
+        }
+    }
+
+    private String anyItem() {
+        String low = (rarely() ? "\\" : "") + alphabet.charAt(below(alphabet.length()));
+        String high = (rarely() ? "\\" : "") + alphabet.charAt(below(alphabet.length()));
+        return below(2) == 0 ? low : below(8) == 0 ? "-" : low + "-" + high;
     }
 
     private void packOne(int d) {
