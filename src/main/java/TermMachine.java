@@ -214,37 +214,11 @@ public final class TermMachine {
     }
 
     public int prefix(int d) {
-        if (!isDictionary(d)) {
-            return BAD;
-        }
-        Signs word = takeCollected();
-        if (dictionaries[d].open) {
-            return OPEN;
-        }
-        Terms terms = dictionaries[d].terms;
-        foundSize = 0;
-        int from = terms.leastNotBelow(word);
-        for (int number = from; number < terms.size && terms.beginsWith(number, word); number++) {
-            putFound(number);
-        }
-        return foundSize;
+        return isDictionary(d) ? keepBeginning(d, MOST_TERMS, false) : BAD;
     }
 
     public int cheapest(int d, int n) {
-        if (!isDictionary(d) || n < 1 || n > MOST_TERMS) {
-            return BAD;
-        }
-        Signs word = takeCollected();
-        if (dictionaries[d].open) {
-            return OPEN;
-        }
-        Terms terms = dictionaries[d].terms;
-        foundSize = 0;
-        int from = terms.leastNotBelow(word);
-        for (int number = from; number < terms.size && terms.beginsWith(number, word); number++) {
-            rankFound(terms, number, n);
-        }
-        return foundSize;
+        return isDictionary(d) && n >= 1 && n <= MOST_TERMS ? keepBeginning(d, n, true) : BAD;
     }
 
     public int meet(int d, int kind) {
@@ -368,6 +342,25 @@ public final class TermMachine {
         usedUp = word;
         collected.clear();
         return word;
+    }
+
+    /** What begins with what was collected: in order, or the cheapest of it. */
+    private int keepBeginning(int d, int most, boolean cheapestFirst) {
+        Signs word = takeCollected();
+        if (dictionaries[d].open) {
+            return OPEN;
+        }
+        Terms terms = dictionaries[d].terms;
+        foundSize = 0;
+        int from = terms.leastNotBelow(word);
+        for (int number = from; number < terms.size && terms.beginsWith(number, word); number++) {
+            if (cheapestFirst) {
+                rankFound(terms, number, most);
+            } else {
+                putFound(number);
+            }
+        }
+        return foundSize;
     }
 
     private void putFound(int number) {

@@ -17,7 +17,6 @@ public final class BigTest {
         fill(5, 200, 1, MOST_OUT);
         fill(6, 16, 2, 2);
         greatestTrie();
-        roundTrip();
         tooManyPaths();
         check.end("BigTest");
     }
@@ -95,35 +94,6 @@ public final class BigTest {
             check.due("next", x.next(0), n);
         }
         check.due("next", x.next(0), -1);
-    }
-
-    /** What fills COLLECTED to the last sign is read back. */
-    private static void roundTrip() {
-        TermMachine x = new TermMachine();
-        fillFan(x, 0, 0);
-        int missing = 4000 - x.packed(0);
-        fillFan(x, missing / 2, missing % 2);
-        check.due("packed", x.packed(0), 4000);
-        int[] signs = new int[4000];
-        for (int i = 0; i < 4000; i++) {
-            signs[i] = x.sign(i);
-        }
-        check.due("load", Check.give(x, signs).load(1), 199);
-        check.due("nothing is in just one", x.join(0, 1, 2, 3), 0);
-        check.due("states", x.count(1, 2), x.count(0, 2));
-        signs[3999] ^= 1;
-        check.due("load of what is broken", Check.give(x, signs).load(1), -7);
-    }
-
-    /** An OUT of 20000 takes two signs more than one of 0 does, one of 200 takes one more. */
-    private static void fillFan(TermMachine x, int twoMore, int oneMore) {
-        Random random = new Random(77);
-        x.begin(0);
-        for (int i = 0; i < 199; i++) {
-            int[] word = {i, random.nextInt(256), random.nextInt(256), random.nextInt(256)};
-            Check.give(x, word).add(0, i < twoMore ? 20000 : i < twoMore + oneMore ? 200 : 0);
-        }
-        x.done(0);
     }
 
     /** Machines with more paths than could ever be gone, in few signs. */

@@ -1,15 +1,21 @@
 import java.nio.charset.StandardCharsets;
 
 /** Counts the answers that are not as due, and puts words into machines. */
-final class Check {
+class Check {
+    private String sentence = "";
     private int wrong;
     private int asked;
+
+    /** The document's words that the next answers are due by. */
+    void sentence(String words) {
+        sentence = "\"" + words + "\": ";
+    }
 
     void due(String call, long got, long want) {
         asked++;
         if (got != want) {
             wrong++;
-            System.out.println(call + " answered " + got + ", due is " + want);
+            System.out.println(sentence + call + " answered " + got + ", due is " + want);
         }
     }
 

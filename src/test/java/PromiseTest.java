@@ -1,12 +1,10 @@
 /** For each promise: ordinary inputs, the edges that the document names, and wrong inputs, with the answers due. */
-public final class PromiseTest {
-    private static final int NONE = -1, BAD = -2, FULL = -3, OPEN = -4, ORDER = -5, LONG = -6, SHAPE = -7;
-    private static final long MOST_OUT = 1_000_000_000_000L;
-    private static final int[] NO_DICTIONARIES = {-1, 4, Integer.MIN_VALUE, Integer.MAX_VALUE};
-
-    private static final Check check = new Check();
-
+public final class PromiseTest extends Bench {
     public static void main(String[] args) {
+        new PromiseTest().run();
+    }
+
+    private void run() {
         constants();
         newObject();
         collect();
@@ -38,65 +36,10 @@ public final class PromiseTest {
         loadRefused();
         walk();
         next();
-        usedUp();
-        check.end("PromiseTest");
+        end("PromiseTest");
     }
 
-    private static void due(String call, long got, long want) {
-        check.due(call, got, want);
-    }
-
-    private static TermMachine give(TermMachine x, String word) {
-        return Check.give(x, word);
-    }
-
-    /** Words and OUTS by turns. */
-    private static void build(TermMachine x, int d, Object... terms) {
-        x.begin(d);
-        for (int i = 0; i < terms.length; i += 2) {
-            give(x, (String) terms[i]).add(d, ((Number) terms[i + 1]).longValue());
-        }
-        x.done(d);
-    }
-
-    private static TermMachine with(Object... terms) {
-        TermMachine x = new TermMachine();
-        build(x, 0, terms);
-        return x;
-    }
-
-    private static void words(TermMachine x, int d, String... words) {
-        Object[] terms = new Object[2 * words.length];
-        for (int i = 0; i < words.length; i++) {
-            terms[2 * i] = words[i];
-            terms[2 * i + 1] = i;
-        }
-        build(x, d, terms);
-    }
-
-    private static void dueRow(String call, TermMachine x, long got, int... numbers) {
-        due(call, got, numbers.length);
-        for (int i = 0; i < numbers.length; i++) {
-            due(call + " row(" + i + ")", x.row(i), numbers[i]);
-        }
-        due(call + " row behind", x.row(numbers.length), NONE);
-        due(call + " row ahead", x.row(-1), NONE);
-    }
-
-    private static void dueTerms(String call, TermMachine x, int d, Object... terms) {
-        due(call + " terms", x.count(d, 0), terms.length / 2);
-        due(call + " is done", x.count(d, 1), 0);
-        for (int i = 0; i < terms.length; i += 2) {
-            String word = (String) terms[i];
-            due(call + " length of " + word, x.term(d, i / 2, -1), word.length());
-            for (int k = 0; k < word.length(); k++) {
-                due(call + " sign " + k + " of " + word, x.term(d, i / 2, k), word.charAt(k));
-            }
-            due(call + " out of " + word, x.out(d, i / 2), ((Number) terms[i + 1]).longValue());
-        }
-    }
-
-    private static void constants() {
+    private void constants() {
         due("NONE", TermMachine.NONE, NONE);
         due("BAD", TermMachine.BAD, BAD);
         due("FULL", TermMachine.FULL, FULL);
@@ -106,7 +49,7 @@ public final class PromiseTest {
         due("SHAPE", TermMachine.SHAPE, SHAPE);
     }
 
-    private static void newObject() {
+    private void newObject() {
         TermMachine x = new TermMachine();
         for (int d = 0; d < 4; d++) {
             int[] counts = {0, 0, 1, 0, 0, 0, 1};
@@ -128,7 +71,7 @@ public final class PromiseTest {
         due("new sign", x.sign(0), NONE);
     }
 
-    private static void collect() {
+    private void collect() {
         TermMachine x = new TermMachine();
         due("collect 0", x.collect(97, 0), BAD);
         due("collect 9", x.collect(97, 9), BAD);
@@ -157,7 +100,7 @@ public final class PromiseTest {
         due("forget all", x.forget(), 4000);
     }
 
-    private static void forget() {
+    private void forget() {
         TermMachine x = new TermMachine();
         due("forget none", x.forget(), 0);
         give(x, "abcde");
@@ -166,7 +109,7 @@ public final class PromiseTest {
         due("collect after forget", x.collect(1, 1), 1);
     }
 
-    private static void begin() {
+    private void begin() {
         TermMachine x = new TermMachine();
         for (int d : NO_DICTIONARIES) {
             due("begin BAD", x.begin(d), BAD);
@@ -186,7 +129,7 @@ public final class PromiseTest {
         due("begin keeps what is collected", x.forget(), 4);
     }
 
-    private static void add() {
+    private void add() {
         TermMachine x = new TermMachine();
         due("add to a done one", give(x, "a").add(0, 1), OPEN);
         x.begin(0);
@@ -206,9 +149,9 @@ public final class PromiseTest {
         due("add twelve", give(x, "abcdefghijkl").add(0, 0), 2);
         due("add thirteen", give(x, "abcdefghijklm").add(0, 0), LONG);
         due("add LONG before ORDER", give(x, "aaaaaaaaaaaaa").add(0, 0), LONG);
-        due("add high sign", Check.give(x, 200).add(0, 0), 3);
-        due("add unsigned order", Check.give(x, 127).add(0, 0), ORDER);
-        due("add 255", Check.give(x, 255).add(0, 0), 4);
+        due("add high sign", give(x, 200).add(0, 0), 3);
+        due("add unsigned order", give(x, 127).add(0, 0), ORDER);
+        due("add 255", give(x, 255).add(0, 0), 4);
         x.done(0);
         due("add OPEN before LONG", give(x, "abcdefghijklm").add(0, 0), OPEN);
         dueTerms("add", x, 0, "ab", MOST_OUT, "abcdefghijkl", 0, "\u00c8", 0, "\u00ff", 0);
@@ -216,27 +159,27 @@ public final class PromiseTest {
         addMany();
     }
 
-    private static void addEmptyFirst() {
+    private void addEmptyFirst() {
         TermMachine x = new TermMachine();
         x.begin(0);
         due("add the empty term", x.add(0, 3), 1);
         due("add it again", x.add(0, 3), ORDER);
-        due("add behind it", Check.give(x, 0).add(0, 3), 2);
+        due("add behind it", give(x, 0).add(0, 3), 2);
     }
 
-    private static void addMany() {
+    private void addMany() {
         TermMachine x = new TermMachine();
         x.begin(0);
         for (int i = 0; i < 200; i++) {
-            due("add many", Check.give(x, i).add(0, i), i + 1);
+            due("add many", give(x, i).add(0, i), i + 1);
         }
-        due("add ORDER before FULL", Check.give(x, 7).add(0, 1), ORDER);
-        due("add FULL", Check.give(x, 201).add(0, 1), FULL);
+        due("add ORDER before FULL", give(x, 7).add(0, 1), ORDER);
+        due("add FULL", give(x, 201).add(0, 1), FULL);
         due("add FULL changed nothing", x.count(0, 0), 200);
         due("done with many", x.done(0), 2);
     }
 
-    private static void done() {
+    private void done() {
         TermMachine x = new TermMachine();
         for (int d : NO_DICTIONARIES) {
             due("done BAD", x.done(d), BAD);
@@ -268,7 +211,7 @@ public final class PromiseTest {
         due("done parts unlike outputs", x.done(1), 6);
     }
 
-    private static void find() {
+    private void find() {
         TermMachine x = with("", 7, "a", MOST_OUT, "abc", 0);
         for (int d : NO_DICTIONARIES) {
             due("find BAD", x.find(d), BAD);
@@ -285,7 +228,7 @@ public final class PromiseTest {
         due("find OPEN", x.find(0), OPEN);
     }
 
-    private static void state() {
+    private void state() {
         TermMachine x = with("ab", 1, "cb", 5, "d", 2);
         for (int d : NO_DICTIONARIES) {
             due("state BAD", x.state(d), BAD);
@@ -303,7 +246,7 @@ public final class PromiseTest {
         due("state OPEN", give(x, "a").state(0), OPEN);
     }
 
-    private static void count() {
+    private void count() {
         TermMachine x = with("", 4, "ab", 1, "abc", 9, "cb", 5, "d", 2);
         for (int d : NO_DICTIONARIES) {
             due("count BAD", x.count(d, 0), BAD);
@@ -324,7 +267,7 @@ public final class PromiseTest {
         due("count BAD before OPEN", x.count(0, 7), BAD);
     }
 
-    private static void arc() {
+    private void arc() {
         TermMachine x = with("", 14, "ab", 11, "abc", 19, "cb", 15, "d", 12);
         for (int d : NO_DICTIONARIES) {
             due("arc BAD", x.arc(d, 0, 0, 0), BAD);
@@ -361,7 +304,7 @@ public final class PromiseTest {
         due("arc BAD before OPEN", x.arc(0, 0, 0, 5), BAD);
     }
 
-    private static void number() {
+    private void number() {
         TermMachine x = with("", 7, "a", 5, "abc", 0);
         for (int d : NO_DICTIONARIES) {
             due("number BAD", x.number(d), BAD);
@@ -376,7 +319,7 @@ public final class PromiseTest {
         due("number OPEN", x.number(0), OPEN);
     }
 
-    private static void term() {
+    private void term() {
         TermMachine x = with("", 7, "a\u0000\u00ff", 5);
         for (int d : NO_DICTIONARIES) {
             due("term BAD", x.term(d, 0, 0), BAD);
@@ -397,7 +340,7 @@ public final class PromiseTest {
         due("term OPEN", x.term(0, 9, 9), OPEN);
     }
 
-    private static void out() {
+    private void out() {
         TermMachine x = with("", 7, "a", MOST_OUT);
         for (int d : NO_DICTIONARIES) {
             due("out BAD", x.out(d, 0), BAD);
@@ -411,7 +354,7 @@ public final class PromiseTest {
         due("out OPEN", x.out(0, 9), OPEN);
     }
 
-    private static void ceiling() {
+    private void ceiling() {
         TermMachine x = with("ab", 1, "abc", 1, "b\u0080", 1);
         for (int d : NO_DICTIONARIES) {
             due("ceiling BAD", x.ceiling(d), BAD);
@@ -431,7 +374,7 @@ public final class PromiseTest {
         due("ceiling OPEN", x.ceiling(0), OPEN);
     }
 
-    private static void prefix() {
+    private void prefix() {
         TermMachine x = with("", 1, "ab", 1, "abc", 1, "abd", 1, "b", 1);
         for (int d : NO_DICTIONARIES) {
             due("prefix BAD", x.prefix(d), BAD);
@@ -449,7 +392,7 @@ public final class PromiseTest {
         dueRow("prefix in an empty one", x, x.prefix(1));
     }
 
-    private static void cheapest() {
+    private void cheapest() {
         TermMachine x = with("", 9, "ab", 5, "abc", 7, "abd", 5, "abe", 1, "b", 0);
         for (int d : NO_DICTIONARIES) {
             due("cheapest BAD", x.cheapest(d, 1), BAD);
@@ -468,7 +411,7 @@ public final class PromiseTest {
         due("cheapest BAD before OPEN", x.cheapest(0, 0), BAD);
     }
 
-    private static void meetWild() {
+    private void meetWild() {
         TermMachine x = new TermMachine();
         words(x, 0, "", "*", "a", "ab", "abc", "acb", "b?b", "bab");
         dueRow("wild nothing", x, x.meet(0, 0), 0);
@@ -491,12 +434,7 @@ public final class PromiseTest {
         dueRow("wild a+", x, give(x, "a+").meet(0, 0), 3);
     }
 
-    private static void duePattern(TermMachine x, String pattern, int... numbers) {
-        dueRow("pattern " + pattern, x, give(x, pattern).meet(0, 1), numbers);
-        due("no fault of " + pattern, x.fault(), NONE);
-    }
-
-    private static void meetPattern() {
+    private void meetPattern() {
         TermMachine x = new TermMachine();
         words(x, 0, "", "*", "a", "aa", "aaa", "ab", "abab", "abc", "b", "ba");
         duePattern(x, "", 0);
@@ -535,7 +473,7 @@ public final class PromiseTest {
         duePattern(x, "a.", 2, 4);
     }
 
-    private static void meetSets() {
+    private void meetSets() {
         TermMachine x = new TermMachine();
         words(x, 0, "", "-", "[", "\\", "]", "^", "a", "b", "c", "z", "\u00ff");
         duePattern(x, "[a]", 6);
@@ -577,7 +515,7 @@ public final class PromiseTest {
         duePattern(x, "([a-b][b-c])?b?", 3, 4, 6);
     }
 
-    private static void meetNear() {
+    private void meetNear() {
         TermMachine x = new TermMachine();
         words(x, 0, "", "a", "ab", "abc", "abcd", "abdc", "acb", "b", "ba", "bac", "bca", "xyz");
         dueRow("near 0 nothing", x, x.meet(0, 2), 0);
@@ -597,7 +535,7 @@ public final class PromiseTest {
         due("near thirteen", give(x, "abcdefghijklm").meet(0, 4), LONG);
     }
 
-    private static void meetRefused() {
+    private void meetRefused() {
         TermMachine x = new TermMachine();
         words(x, 0, "a", "b");
         x.prefix(0);
@@ -617,12 +555,7 @@ public final class PromiseTest {
         due("refused meets kept its length", x.row(2), NONE);
     }
 
-    private static void dueFault(TermMachine x, String pattern, int place) {
-        due("meet " + pattern, give(x, pattern).meet(0, 1), SHAPE);
-        due("fault of " + pattern, x.fault(), place);
-    }
-
-    private static void fault() {
+    private void fault() {
         TermMachine x = new TermMachine();
         dueFault(x, "(", 1);
         dueFault(x, ")", 0);
@@ -666,7 +599,7 @@ public final class PromiseTest {
         faultThatStays(x);
     }
 
-    private static void faultThatStays(TermMachine x) {
+    private void faultThatStays(TermMachine x) {
         dueFault(x, "a)", 1);
         due("meet wild", give(x, "a)").meet(0, 0), 0);
         due("fault after another kind", x.fault(), 1);
@@ -681,7 +614,7 @@ public final class PromiseTest {
         due("no fault any more", x.fault(), NONE);
     }
 
-    private static void row() {
+    private void row() {
         TermMachine x = new TermMachine();
         due("row before", x.row(0), NONE);
         words(x, 0, "a", "b", "c");
@@ -695,7 +628,7 @@ public final class PromiseTest {
         due("row is made anew", x.row(0), NONE);
     }
 
-    private static void join() {
+    private void join() {
         TermMachine x = new TermMachine();
         build(x, 0, "", 3, "a", 5, "abc", 7, "b", 9);
         build(x, 1, "a", 4, "ab", 6, "b", 10, "c", 1);
@@ -731,7 +664,7 @@ public final class PromiseTest {
         joinRefused();
     }
 
-    private static void joinRefused() {
+    private void joinRefused() {
         TermMachine x = new TermMachine();
         build(x, 0, "a", MOST_OUT, "b", 600_000_000_000L);
         build(x, 1, "a", 0, "b", 400_000_000_000L);
@@ -754,10 +687,10 @@ public final class PromiseTest {
         x.begin(0);
         x.begin(1);
         for (int i = 0; i < 120; i++) {
-            Check.give(x, 2 * i).add(0, i);
+            give(x, 2 * i).add(0, i);
         }
         for (int i = 0; i < 81; i++) {
-            Check.give(x, 2 * i + 1).add(1, i);
+            give(x, 2 * i + 1).add(1, i);
         }
         x.done(0);
         x.done(1);
@@ -767,16 +700,7 @@ public final class PromiseTest {
         due("join less", x.join(0, 1, 2, 2), 120);
     }
 
-    private static void duePacked(TermMachine x, int d, int... signs) {
-        due("packed", x.packed(d), signs.length);
-        for (int i = 0; i < signs.length; i++) {
-            due("packed sign " + i, x.sign(i), signs[i]);
-        }
-        due("packed sign behind", x.sign(signs.length), NONE);
-        due("packed sign ahead", x.sign(-1), NONE);
-    }
-
-    private static void packed() {
+    private void packed() {
         TermMachine x = new TermMachine();
         for (int d : NO_DICTIONARIES) {
             due("packed BAD", x.packed(d), BAD);
@@ -799,7 +723,7 @@ public final class PromiseTest {
         due("packed kept", x.sign(6), 2);
     }
 
-    private static void sign() {
+    private void sign() {
         TermMachine x = new TermMachine();
         due("sign before", x.sign(0), NONE);
         build(x, 0, "a", 1);
@@ -809,14 +733,14 @@ public final class PromiseTest {
         due("sign of the term", x.sign(6), 97);
         due("sign far", x.sign(Integer.MAX_VALUE), NONE);
         due("sign far ahead", x.sign(Integer.MIN_VALUE), NONE);
-        Check.give(x, 84, 77, 0, 1, 0, 0);
+        give(x, 84, 77, 0, 1, 0, 0);
         due("load", x.load(1), 0);
         due("sign after load", x.sign(6), 97);
     }
 
-    private static void load() {
+    private void load() {
         TermMachine x = new TermMachine();
-        Check.give(x, 84, 77, 127, 2, 1, 0, 2, 97, 1, 1, 255, 1, 0, 1, 0, 0);
+        give(x, 84, 77, 127, 2, 1, 0, 2, 97, 1, 1, 255, 1, 0, 1, 0, 0);
         for (int d : NO_DICTIONARIES) {
             due("load BAD", x.load(d), BAD);
         }
@@ -826,23 +750,23 @@ public final class PromiseTest {
         due("load rests", x.arc(2, 0, -1, 3), 3);
         due("load beginnings", x.count(2, 6), 3);
         x.begin(2);
-        due("load SHAPE", Check.give(x, 84, 77, 0, 1, 0).load(2), SHAPE);
+        due("load SHAPE", give(x, 84, 77, 0, 1, 0).load(2), SHAPE);
         due("load SHAPE left it open", x.count(2, 1), 1);
-        due("load an empty one", Check.give(x, 84, 77, 0, 1, 0, 0).load(2), 0);
+        due("load an empty one", give(x, 84, 77, 0, 1, 0, 0).load(2), 0);
         due("load made it done", x.count(2, 1), 0);
-        Check.give(x, 84, 77, 128, 160, 148, 165, 141, 29, 1, 1, 0, 0);
+        give(x, 84, 77, 128, 160, 148, 165, 141, 29, 1, 1, 0, 0);
         due("load the greatest out", x.load(2), 1);
         dueTerms("load the greatest out", x, 2, "", MOST_OUT);
     }
 
-    private static void dueShape(String why, int... signs) {
+    private void dueShape(String why, int... signs) {
         TermMachine x = with("kept", 1);
-        due(why, Check.give(x, signs).load(0), SHAPE);
+        due(why, give(x, signs).load(0), SHAPE);
         dueTerms(why, x, 0, "kept", 1);
         due(why + " used up", x.forget(), 0);
     }
 
-    private static void loadRefused() {
+    private void loadRefused() {
         dueShape("nothing");
         dueShape("a first sign", 83, 77, 0, 1, 0, 0);
         dueShape("a second sign", 84, 78, 0, 1, 0, 0);
@@ -885,7 +809,7 @@ public final class PromiseTest {
         dueShape("a term of 13", chain);
         dueShape("200 twice", fan(201));
         TermMachine x = new TermMachine();
-        due("200 arcs", Check.give(x, fan(200)).load(0), 200);
+        due("200 arcs", give(x, fan(200)).load(0), 200);
     }
 
     /** A dictionary of so many terms, of one sign each. */
@@ -904,15 +828,7 @@ public final class PromiseTest {
         return signs;
     }
 
-    private static void dueSteps(String call, TermMachine x, int w, int... numbers) {
-        for (int number : numbers) {
-            due(call, x.next(w), number);
-        }
-        due(call + " end", x.next(w), NONE);
-        due(call + " past the end", x.next(w), NONE);
-    }
-
-    private static void walk() {
+    private void walk() {
         TermMachine x = new TermMachine();
         words(x, 0, "", "ab", "abc", "b");
         for (int d : NO_DICTIONARIES) {
@@ -943,7 +859,7 @@ public final class PromiseTest {
         walkRefused();
     }
 
-    private static void walkRefused() {
+    private void walkRefused() {
         TermMachine x = new TermMachine();
         words(x, 0, "a", "b", "c");
         x.walk(0, 0, false);
@@ -954,7 +870,7 @@ public final class PromiseTest {
         due("refused walks change nothing", x.next(0), 1);
     }
 
-    private static void next() {
+    private void next() {
         TermMachine x = new TermMachine();
         for (int w : NO_DICTIONARIES) {
             due("next BAD", x.next(w), BAD);
@@ -972,7 +888,7 @@ public final class PromiseTest {
         due("walks go by themselves", x.next(2), 0);
         x.join(0, 1, 3, 0);
         due("next after a join elsewhere", x.next(2), 1);
-        Check.give(x, 84).load(0);
+        give(x, 84).load(0);
         x.join(0, 0, 0, 9);
         x.begin(9);
         due("next after refused changes", x.next(0), 2);
@@ -989,71 +905,7 @@ public final class PromiseTest {
         x.join(0, 0, 0, 0);
         due("next after a join", x.next(0), NONE);
         x.walk(0, 0, false);
-        Check.give(x, 84, 77, 0, 1, 1, 0, 0).load(0);
+        give(x, 84, 77, 0, 1, 1, 0, 0).load(0);
         due("next after a load", x.next(0), NONE);
-    }
-
-    /** What a call that reads COLLECTED leaves of it: nothing, but after BAD. */
-    private static void usedUp() {
-        TermMachine x = new TermMachine();
-        x.begin(1);
-        for (int call = 0; call < 10; call++) {
-            for (int d = 0; d <= 1; d++) {
-                give(x, "(ab");
-                readCollected(x, call, d);
-                due("call " + call + " on " + d + " uses up", x.forget(), 0);
-            }
-            for (int d : NO_DICTIONARIES) {
-                give(x, "abc");
-                due("call " + call + " BAD", readCollected(x, call, d), BAD);
-                due("call " + call + " BAD keeps", x.forget(), 3);
-            }
-        }
-        give(x, "abc");
-        x.add(1, -1);
-        x.cheapest(0, 0);
-        x.cheapest(0, 201);
-        x.meet(0, 5);
-        x.walk(4, 0, true);
-        due("BAD numbers keep", x.forget(), 3);
-        give(x, "abc");
-        x.begin(2);
-        x.done(2);
-        x.count(0, 0);
-        x.arc(0, 0, 0, 0);
-        x.term(0, 0, 0);
-        x.out(0, 0);
-        x.fault();
-        x.row(0);
-        x.join(0, 0, 0, 0);
-        x.packed(0);
-        x.sign(0);
-        x.next(0);
-        due("other calls keep", x.forget(), 3);
-    }
-
-    private static long readCollected(TermMachine x, int call, int d) {
-        switch (call) {
-            case 0:
-                return x.add(d, 1);
-            case 1:
-                return x.find(d);
-            case 2:
-                return x.state(d);
-            case 3:
-                return x.number(d);
-            case 4:
-                return x.ceiling(d);
-            case 5:
-                return x.prefix(d);
-            case 6:
-                return x.cheapest(d, 1);
-            case 7:
-                return x.meet(d, 1);
-            case 8:
-                return x.walk(0, d, false);
-            default:
-                return x.load(d);
-        }
     }
 }
