@@ -412,6 +412,8 @@ public final class BoundaryWordsTest extends Bench {
         dueRow("those of three", x, give(x, "abc").meet(0, 3), 0, 1, 2, 4);
         words(x, 0, "abc");
         dueRow("one put in between", x, give(x, "ca").meet(0, 4));
+        words(x, 0, "ca");
+        dueRow("no neighbours in the word", x, give(x, "abc").meet(0, 4));
         words(x, 0, "acb");
         dueRow("one that is touched again", x, give(x, "bac").meet(0, 3));
         dueRow("which two steps reach otherwise", x, give(x, "bac").meet(0, 4), 0);
